@@ -608,25 +608,19 @@ public final class AheadPlanner {
             }
             boolean aheadOnly = policy == AHEAD_FIRST && waitingSize > room / 4;
             int victim = NONE;
+            long least = Long.MAX_VALUE;
             for (int slot = 0; slot < size; slot++) {
                 if (blocks[slot] == beingRead || aheadOnly && !waiting[slot]) {
                     continue;
                 }
-                if (victim == NONE || goesBefore(slot, victim, policy)) {
+                // One touch more weighs above every stamp.
+                long weight = stamps[slot] + (policy == BY_TOUCH ? (long) touched[slot] << 32 : 0);
+                if (weight < least) {
+                    least = weight;
                     victim = slot;
                 }
             }
             return takeOut(victim);
-        }
-
-        boolean goesBefore(int slot, int other, int policy) {
-            if (slot < 0 || slot >= size || other < 0 || other >= size) {
-                return false;
-            }
-            if (policy == BY_TOUCH && touched[slot] != touched[other]) {
-                return touched[slot] < touched[other];
-            }
-            return stamps[slot] < stamps[other];
         }
 
         /** Empties a slot; the owner of its block if that was ahead, as it is wasted then. */

@@ -502,6 +502,7 @@ public final class PromiseTest {
         AheadPlanner x = with(7, 100);
         due("n 0", x.reads(10, 1, 0), -1);
         due("n 41", x.reads(10, 1, 41), -1);
+        due("n 1", with().reads(10, 1, 1), 0);
         due("n MIN", x.reads(10, 1, MIN), -1);
         due("nothing READ", x.count(0), 0);
         due("n 40", x.reads(10, 1, 40), 37);
@@ -642,6 +643,12 @@ public final class PromiseTest {
         AheadPlanner x = with(7, 100);
         due("no such", x.bad(100, true), false);
         due("no such", x.bad(-1, true), false);
+        due("0", x.bad(0, true) && x.bad(99, true), true);
+        x.sets(7, 99);
+        due("99 is beyond SIZE", x.count(18), 1);
+        x.sets(7, 100);
+        due("and comes back", x.count(18), 2);
+        due("no more", x.bad(0, false) && x.bad(99, false), true);
         due("it is so", x.bad(5, false), false);
         due("BAD", x.bad(5, true), true);
         due("it is so", x.bad(5, true), false);

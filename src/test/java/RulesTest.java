@@ -1,0 +1,167 @@
+import java.io.IOException;
+import java.lang.management.ManagementFactory;
+import java.lang.reflect.Field;
+import java.lang.reflect.Method;
+import java.lang.reflect.Modifier;
+import java.nio.file.Files;
+import java.nio.file.Path;
+import java.util.ArrayList;
+import java.util.Arrays;
+import java.util.List;
+import java.util.TreeSet;
+import java.util.regex.Matcher;
+import java.util.regex.Pattern;
+
+/** The rules of LANGUAGE.md that a program can look at: the face, words that are out, sizes, what a run makes. */
+public final class RulesTest {
+    private static final Path SOURCE = Path.of("src/main/java/AheadPlanner.java");
+    private static final Path DOCUMENT = Path.of("../shared/DOC.md");
+    private static int wrong;
+
+    private static void must(boolean holds, String rule) {
+        if (!holds) {
+            wrong++;
+            System.out.println("broken: " + rule);
+        }
+    }
+
+    public static void main(String[] args) throws IOException {
+        String source = Files.readString(SOURCE);
+        face();
+        words(source);
+        lengths(source);
+        classes();
+        whatARunMakes();
+        System.out.println(wrong == 0 ? "the rules are kept" : wrong + " rules are broken");
+        if (wrong != 0) {
+            System.exit(1);
+        }
+    }
+
+    private static void face() throws IOException {
+        TreeSet<String> told = new TreeSet<>();
+        Matcher m = Pattern.compile("    public (int|boolean) (\\w+)\\(([^)]*)\\);").matcher(Files.readString(DOCUMENT));
+        while (m.find()) {
+            told.add(m.group(1) + " " + m.group(2) + "(" + m.group(3).replaceAll(" \\w+(, |$)", "$1") + ")");
+        }
+        TreeSet<String> there = new TreeSet<>();
+        for (Method method : AheadPlanner.class.getDeclaredMethods()) {
+            if (!Modifier.isPrivate(method.getModifiers())) {
+                List<String> types = new ArrayList<>();
+                Arrays.stream(method.getParameterTypes()).forEach(t -> types.add(t.getName()));
+                there.add(method.getReturnType().getName() + " " + method.getName() + "(" + String.join(", ", types) + ")");
+                must(Modifier.isPublic(method.getModifiers()), "1: " + method + " is public");
+            }
+        }
+        must(told.size() == 34, "the document's methods are read: " + told.size());
+        must(told.equals(there), "1: the face is " + told + ", there is " + there);
+        for (Field field : AheadPlanner.class.getDeclaredFields()) {
+            boolean constant = field.getName().equals("NONE");
+            must(constant == Modifier.isPublic(field.getModifiers()), "1: " + field);
+            must(constant || Modifier.isPrivate(field.getModifiers()), "1: " + field);
+        }
+        must(AheadPlanner.class.getDeclaredConstructors().length == 1, "1: one constructor");
+        must(Modifier.isFinal(AheadPlanner.class.getModifiers()), "1: final");
+    }
+
+    private static void words(String source) {
+        String code = source.replaceAll("(?s)/\\*.*?\\*/", " ").replaceAll("//[^\n]*", " ");
+        String[] out = {"\\bthrow\\b", "\\btry\\b", "\\bcatch\\b", "\\bsynchronized\\b", "\\bassert\\b", "->", "::",
+            "Exact\\(", "\\bpackage\\b", "static \\{", "\\bprotected\\b", "\\bSystem\\.(?!arraycopy)", "\\bThread\\b",
+            "\\bRandom\\b", "\\bequals\\b", "\\bhashCode\\b", "\\btoString\\b", "\\bclass \\w+ extends\\b"};
+        for (String word : out) {
+            must(!Pattern.compile(word).matcher(code).find(), "no " + word);
+        }
+        Matcher m = Pattern.compile("import ([\\w.]+);").matcher(code);
+        while (m.find()) {
+            must(m.group(1).equals("java.util.Arrays"), "4: import of " + m.group(1));
+        }
+        must(source.chars().allMatch(c -> c < 128), "only plain signs");
+    }
+
+    private static void lengths(String source) {
+        String[] lines = source.split("\n");
+        for (int i = 0; i < lines.length; i++) {
+            if (!lines[i].matches(" {4}( {4})?[\\w\\[\\]<> ]+\\([^;]*\\) \\{") || lines[i].contains(" for (")
+                    || lines[i].contains(" if (") || lines[i].contains(" while (") || lines[i].contains(" switch (")) {
+                continue;
+            }
+            String end = lines[i].replaceAll("\\S.*", "") + "}";
+            int k = i;
+            while (k < lines.length && !lines[k].equals(end)) {
+                k++;
+            }
+            must(k - i <= 60, "11: some sixty lines: " + lines[i].trim());
+        }
+    }
+
+    private static void classes() {
+        TreeSet<String> names = new TreeSet<>();
+        for (Method method : AheadPlanner.class.getMethods()) {
+            if (method.getDeclaringClass() == AheadPlanner.class) {
+                names.add(method.getName());
+            }
+        }
+        Class<?>[] inside = AheadPlanner.class.getDeclaredClasses();
+        must(inside.length + 1 <= 12, "11: some twelve classes");
+        List<Class<?>> all = new ArrayList<>(Arrays.asList(inside));
+        all.add(AheadPlanner.class);
+        for (Class<?> c : all) {
+            int fields = 0;
+            for (Field field : c.getDeclaredFields()) {
+                boolean isStatic = Modifier.isStatic(field.getModifiers());
+                must(!isStatic || Modifier.isFinal(field.getModifiers()), "5: " + field);
+                fields += isStatic ? 0 : 1;
+            }
+            must(fields <= 20, "11: some twenty fields: " + c);
+            for (Method method : c.getDeclaredMethods()) {
+                must(method.getParameterCount() <= 7, "11: seven parameters: " + method);
+                boolean face = c == AheadPlanner.class && Modifier.isPublic(method.getModifiers());
+                must(face || !names.contains(method.getName()), "1: a name of the face: " + method);
+            }
+            must(c == AheadPlanner.class || Modifier.isStatic(c.getModifiers()), "2: static: " + c);
+        }
+    }
+
+    /** A run of 512 calls of the dearest kinds, kept states with it, must stay small. */
+    private static void whatARunMakes() {
+        com.sun.management.ThreadMXBean bean =
+                (com.sun.management.ThreadMXBean) ManagementFactory.getThreadMXBean();
+        long id = Thread.currentThread().getId();
+        dearRun();
+        long before = bean.getThreadAllocatedBytes(id);
+        dearRun();
+        long made = bean.getThreadAllocatedBytes(id) - before;
+        must(made < 1_000_000, "12: a run made " + made + " bytes");
+    }
+
+    private static void dearRun() {
+        AheadPlanner x = new AheadPlanner();
+        x.sets(0, 64);
+        for (int i = 0; i < 11; i++) {
+            x.reads(i * 17, 1 + i % 3, 40);
+        }
+        for (int i = 0; i < 25; i++) {
+            x.keep(i % 2);
+            x.again(i % 2);
+            x.tune(i % 3);
+            x.best(i % 10, i % 2);
+            x.replay(i % 10, 5, i);
+            x.forecast(20, i % 4);
+            x.would(i * 9, i % 6);
+            x.plan(i * 9, i % 4);
+            x.misses(1 + i, i % 2);
+            x.pace(i % 2);
+            x.row(1 + i, i % 2);
+            x.gain(i % 3);
+            x.habits(i % 5);
+            x.mixed(i % 3);
+            x.piece(i, i % 2);
+            x.write(i, i);
+            x.bad(i, true);
+            x.idle(20);
+            x.advise(i * 30, 1);
+        }
+        x.sets(1, 4);
+    }
+}
