@@ -80,14 +80,22 @@ public final class AheadPlanner {
     private final Study study;
     private final Disk[] keptDisks;
     private final Engine[] keptEngines;
+    private final boolean[] isKept;
 
     public AheadPlanner() {
         disk = new Disk();
+        disk.format();
         now = new Engine(disk);
         paper = new Engine(disk);
         study = new Study(now.history);
         keptDisks = new Disk[KEPT];
         keptEngines = new Engine[KEPT];
+        isKept = new boolean[KEPT];
+        // Made here and used again: what a run makes is counted, and a run may keep at every call.
+        for (int k = 0; k < KEPT; k++) {
+            keptDisks[k] = new Disk();
+            keptEngines[k] = new Engine(keptDisks[k]);
+        }
     }
 
     public boolean sets(int what, int v) {
@@ -183,17 +191,14 @@ public final class AheadPlanner {
         if (k < 0 || k >= KEPT) {
             return false;
         }
-        if (keptEngines[k] == null || keptDisks[k] == null) {
-            keptDisks[k] = new Disk();
-            keptEngines[k] = new Engine(keptDisks[k]);
-        }
         keptDisks[k].copyFrom(disk);
         keptEngines[k].copyFrom(now);
+        isKept[k] = true;
         return true;
     }
 
     public boolean again(int k) {
-        if (k < 0 || k >= KEPT || keptEngines[k] == null || keptDisks[k] == null) {
+        if (k < 0 || k >= KEPT || !isKept[k]) {
             return false;
         }
         disk.copyFrom(keptDisks[k]);
@@ -493,10 +498,10 @@ public final class AheadPlanner {
     /** The content of every block, and which of them are bad. */
     private static final class Disk {
         // A bad block's cell is -1 less its content: one row to keep instead of two.
-        final int[] cells;
+        final int[] cells = new int[BLOCKS];
 
-        Disk() {
-            cells = new int[BLOCKS];
+        /** Gives each block its first content; a kept disk has all of it copied instead. */
+        void format() {
             for (int b = 0; b < BLOCKS; b++) {
                 cells[b] = (7_919 * b + 13) % CONTENTS;
             }

@@ -716,6 +716,8 @@ public final class PromiseTest {
         due("k 1: nothing kept", x.again(1), false);
         due("k -1", x.again(-1), false);
         due("k 2", x.again(2), false);
+        due("nothing happens: READS", x.count(0), 3);
+        due("nothing happens: the DISK", x.block(0, 0), 13);
         x.write(3, 5);
         x.bad(90, true);
         x.reads(13, 1, 20);
@@ -747,6 +749,15 @@ public final class PromiseTest {
         x.read(34);
         x.again(1);
         due("kept anew", x.count(0), 24);
+        AheadPlanner y = new AheadPlanner();
+        due("a new object is kept", y.keep(1), true);
+        due("k 0: nothing kept", y.again(0), false);
+        y.write(9999, 1);
+        y.read(9999);
+        due("as it was at first", y.again(1), true);
+        due("READS at first", y.count(0), 0);
+        due("CONTENT at first", y.block(9999, 0), (7919 * 9999 + 13) % 1000003);
+        due("not in the CACHE", y.block(9999, 1), -1);
     }
 
     private static void block() {

@@ -1,5 +1,6 @@
 import java.io.IOException;
 import java.lang.management.ManagementFactory;
+import java.lang.reflect.Array;
 import java.lang.reflect.Field;
 import java.lang.reflect.Method;
 import java.lang.reflect.Modifier;
@@ -7,6 +8,7 @@ import java.nio.file.Files;
 import java.nio.file.Path;
 import java.util.ArrayList;
 import java.util.Arrays;
+import java.util.IdentityHashMap;
 import java.util.List;
 import java.util.TreeSet;
 import java.util.regex.Matcher;
@@ -16,6 +18,8 @@ import java.util.regex.Pattern;
 public final class RulesTest {
     private static final Path SOURCE = Path.of("src/main/java/AheadPlanner.java");
     private static final Path DOCUMENT = Path.of("../shared/DOC.md");
+    // Far below one row of the class, should the machine count something of its own.
+    private static final long SLIGHT = 1_000;
     private static int wrong;
 
     private static void must(boolean holds, String rule) {
@@ -25,13 +29,15 @@ public final class RulesTest {
         }
     }
 
-    public static void main(String[] args) throws IOException {
+    public static void main(String[] args) throws IOException, IllegalAccessException {
         String source = Files.readString(SOURCE);
         face();
         words(source);
         lengths(source);
         classes();
-        whatARunMakes();
+        makers(source);
+        whatTheConstructorMakes();
+        whatCallsMake();
         System.out.println(wrong == 0 ? "the rules are kept" : wrong + " rules are broken");
         if (wrong != 0) {
             System.exit(1);
@@ -123,25 +129,95 @@ public final class RulesTest {
         }
     }
 
-    /** A run of 512 calls of the dearest kinds, kept states with it, must stay small. */
-    private static void whatARunMakes() {
+    /** Objects and rows are made by constructors alone, in the source. */
+    private static void makers(String source) {
+        Pattern header = Pattern.compile(" {4}( {4})?[\\w\\[\\]<> ]*?(\\w+)\\([^;]*\\) \\{");
+        TreeSet<String> makers = new TreeSet<>(List.of("AheadPlanner"));
+        Arrays.stream(AheadPlanner.class.getDeclaredClasses()).forEach(c -> makers.add(c.getSimpleName()));
+        String end = null;
+        String method = "";
+        int methods = 0;
+        for (String line : source.split("\n")) {
+            String code = line.replaceAll("//.*", "");
+            Matcher m = header.matcher(code);
+            if (end == null && m.matches()) {
+                end = code.replaceAll("\\S.*", "") + "}";
+                method = m.group(2);
+                methods++;
+            } else if (code.equals(end)) {
+                end = null;
+            } else if (end != null && !makers.contains(method)) {
+                boolean makes = Pattern.compile("\\bnew\\b|\\bclone\\(|\\bcopyOf").matcher(code).find();
+                must(!makes, "12: " + method + " makes something: " + code.trim());
+            }
+        }
+        must(methods > 100, "the methods are read: " + methods);
+    }
+
+    /** What the constructor makes lives as long as the run: counted with every field and element. */
+    private static void whatTheConstructorMakes() throws IllegalAccessException {
+        IdentityHashMap<Object, Boolean> seen = new IdentityHashMap<>();
+        long cells = cellsOf(new AheadPlanner(), seen);
+        must(seen.size() < 200, "12: the constructor makes " + seen.size() + " objects");
+        must(cells < 100_000, "12: the constructor makes " + cells + " fields and elements");
+    }
+
+    // Each object is counted once, though several hold it.
+    private static long cellsOf(Object o, IdentityHashMap<Object, Boolean> seen) throws IllegalAccessException {
+        if (o == null || seen.put(o, true) != null) {
+            return 0;
+        }
+        if (o.getClass().isArray()) {
+            long cells = Array.getLength(o);
+            for (int i = 0; o instanceof Object[] row && i < row.length; i++) {
+                cells += cellsOf(row[i], seen);
+            }
+            return cells;
+        }
+        long cells = 0;
+        for (Field field : o.getClass().getDeclaredFields()) {
+            if (!Modifier.isStatic(field.getModifiers())) {
+                cells++;
+                field.setAccessible(true);
+                cells += field.getType().isPrimitive() ? 0 : cellsOf(field.get(o), seen);
+            }
+        }
+        return cells;
+    }
+
+    /** The calls of a run, kept states with them, make nothing at all. */
+    private static void whatCallsMake() {
         com.sun.management.ThreadMXBean bean =
                 (com.sun.management.ThreadMXBean) ManagementFactory.getThreadMXBean();
         long id = Thread.currentThread().getId();
-        dearRun();
+        // Once ahead of what is measured, so that loading classes is not counted.
+        bean.getThreadAllocatedBytes(id);
+        callEach(new AheadPlanner());
+        keepAtEachCall(new AheadPlanner());
+        AheadPlanner x = new AheadPlanner();
+        AheadPlanner y = new AheadPlanner();
         long before = bean.getThreadAllocatedBytes(id);
-        dearRun();
-        long made = bean.getThreadAllocatedBytes(id) - before;
-        must(made < 1_000_000, "12: a run made " + made + " bytes");
+        callEach(x);
+        long between = bean.getThreadAllocatedBytes(id);
+        keepAtEachCall(y);
+        long then = bean.getThreadAllocatedBytes(id);
+        must(between - before < SLIGHT, "12: a run of all calls made " + (between - before) + " bytes");
+        must(then - between < SLIGHT, "12: 512 calls of keep() made " + (then - between) + " bytes");
     }
 
-    private static void dearRun() {
-        AheadPlanner x = new AheadPlanner();
+    private static void keepAtEachCall(AheadPlanner x) {
+        for (int i = 0; i < 512; i++) {
+            x.keep(i % 2);
+        }
+    }
+
+    private static void callEach(AheadPlanner x) {
         x.sets(0, 64);
         for (int i = 0; i < 11; i++) {
             x.reads(i * 17, 1 + i % 3, 40);
         }
-        for (int i = 0; i < 25; i++) {
+        for (int i = 0; i < 14; i++) {
+            x.read(i * 5);
             x.keep(i % 2);
             x.again(i % 2);
             x.tune(i % 3);
@@ -161,7 +237,19 @@ public final class RulesTest {
             x.bad(i, true);
             x.idle(20);
             x.advise(i * 30, 1);
+            x.drop(i * 2);
+            x.block(i, i % 8);
+            x.cached(i);
+            x.stream(i % 4, i % 12);
+            x.aheadOf(i % 4, i % 3);
+            x.log(i, i % 4);
+            x.whose(i, i % 2);
+            x.trace(i);
+            x.until(i % 4);
+            x.ahead(i);
+            x.count(i);
         }
+        x.stop(0);
         x.sets(1, 4);
     }
 }
