@@ -279,6 +279,19 @@ public final class CallsEdgeTest extends Edges {
             due("it is 1,000,002", x.block(99, 0), 1_000_002);
             due("what it was", x.write(99, 1), 1_000_002);
             due("the same again", x.write(99, 1), 1);
+            due("what was 0", x.write(0, 5), 0);
+            due("it is 5", x.block(0, 0), 5);
+            x.write(0, 0);
+            due("CONTENT 0 is not BAD", x.block(0, 5) + x.count(18), 0);
+            due("READ", x.read(0), 0);
+            x.bad(50, true);
+            due("BAD: what it was", x.write(50, 0), content(50));
+            due("BAD: 0", x.block(50, 0) * 10 + x.block(50, 5), 1);
+            due("BAD: what was 0", x.write(50, 1_000_002), 0);
+            due("BAD: 1,000,002", x.block(50, 0), 1_000_002);
+            due("one BAD", x.count(18), 1);
+            x.bad(50, false);
+            due("BAD no more: 1,000,002", x.read(50), 1_000_002);
         });
         says("Promise 7", "NONE: others.", () -> {
             for (int c : new int[] {MIN, -1, 1_000_003, MAX}) {
@@ -479,6 +492,20 @@ public final class CallsEdgeTest extends Edges {
                 x.read(500);
             }
             due("DUE for long", x.block(11, 7), 0);
+            // Each has its own: though others go from the CACHE, and others come.
+            AheadPlanner y = with(LAG, 8);
+            y.read(500);
+            y.advise(10, 1);
+            read(y, 600, 700);
+            y.advise(20, 1);
+            y.drop(11);
+            y.drop(500);
+            due("FETCHED two READS ago", y.block(12, 7), 6);
+            due("FETCHED just now", y.block(21, 7), 8);
+            due("FETCHED just now", y.block(22, 7), 8);
+            y.advise(30, 1);
+            due("not HELD by 1 of 4 WASTED", y.block(31, 7), 8);
+            due("others as they were", y.block(12, 7) * 100 + y.block(21, 7) * 10 + y.block(22, 7), 688);
         });
         says("Promise 13", "NONE: others.", () -> {
             for (int what : new int[] {MIN, -1, 8, MAX}) {

@@ -22,6 +22,7 @@ public final class PaperEdgeTest extends Edges {
         gain();
         log();
         piece();
+        pieceOfNone();
         whose();
         mixed();
         trace();
@@ -137,6 +138,17 @@ public final class PaperEdgeTest extends Edges {
         });
     }
 
+    private static void pieceOfNone() {
+        says("Promise 19", "i NONE: how many pieces (what 0), the longest (1)", () -> {
+            due("empty", of(EMPTY).piece(NONE, 0), 0);
+            due("empty", of(EMPTY).piece(NONE, 1), 0);
+            due("one READ", read(with(), 9_999).piece(NONE, 0), 1);
+            due("one READ", read(with(), 9_999).piece(NONE, 1), 1);
+            due("the longest is the last", read(with(), 9_999, 0, 1).piece(NONE, 1), 2);
+            due("9,999, 0 is no step", read(with(), 9_999, 0).piece(NONE, 0), 2);
+        });
+    }
+
     private static void whose() {
         says("Promise 20", "(the latest first; what 0), how it was found (1: as would()). NONE: others.", () -> {
             due("empty", new AheadPlanner().whose(0, 0), NONE);
@@ -173,6 +185,9 @@ public final class PaperEdgeTest extends Edges {
             due("none between", x.mixed(0), 0);
             due("400", x.mixed(2), 400);
             due("one of one", read(with(), 10).mixed(2), 1);
+            due("one READ each", read(with(), 1000, 2000, 3000).mixed(1), 3);
+            due("one READ each", read(with(), 1000, 2000, 3000).mixed(2), 1);
+            due("the first has two", read(with(), 1000, 1000, 2000).mixed(1) * 10 + read(with(), 1000, 1000, 2000).mixed(2), 22);
         });
         says("Promise 21", "NONE: others.", () -> {
             for (int what : new int[] {MIN, -1, 3, MAX}) {
@@ -231,6 +246,19 @@ public final class PaperEdgeTest extends Edges {
             due("SIZE", with(SIZE, 20).would(20, 0), NONE);
             due("less 1", with(SIZE, 20).would(19, 0), 4);
         });
+        says("Promise 23", "place of its STREAM (2; NONE if it FAILS, or if that is JOINED away)", () -> {
+            due("the first place", of(EMPTY).would(0, 2), 0);
+            due("FAILS", of(SOMETHING).would(4, 2), NONE);
+            AheadPlanner x = with(TABLE, 6);
+            x.reads(0, 1000, 5);
+            due("the last place", x.would(9_000, 2), 5);
+            x.advise(9_000, 1);
+            due("AGAIN, in the last place", x.would(9_000, 2), 5);
+            x.stop(0);
+            x.advise(8_999, 1);
+            due("JOINED away", x.would(9_000, 2), NONE);
+            due("a STEP", x.would(9_000, 0), 1);
+        });
         says("Promise 23", "how many BLOCKS would be FETCHED AHEAD (3), SHARED (4), WASTED (5)", () -> {
             AheadPlanner x = with(ROOM, 4, REACH, 1);
             x.advise(10, 1);
@@ -242,6 +270,16 @@ public final class PaperEdgeTest extends Edges {
             due("13, 14", x.would(11, 3), 2);
             due("12 goes", x.would(11, 5), 1);
             due("nothing is SHARED", x.would(11, 4), 0);
+            // Of what there was so far nothing is told.
+            AheadPlanner y = with();
+            y.advise(10, 1);
+            y.advise(9, 1);
+            read(y, 12, 12);
+            due("HITS and SHARED so far", y.count(1) * 10 + y.count(7), 21);
+            due("a MISS", y.would(5_000, 1), 0);
+            due("a HIT", y.would(12, 1), 1);
+            due("nothing SHARED by it", y.would(12, 4), 0);
+            due("12 SHARED, 13 to 15 FETCHED by 10, the MARKER of the second", y.would(10, 4) * 10 + y.would(10, 3), 13);
         });
     }
 
@@ -362,6 +400,20 @@ public final class PaperEdgeTest extends Edges {
             due("17, 19", x.forecast(20, 0), 2);
             x.advise(2, -2);
             due("and 0", x.forecast(20, 0), 3);
+        });
+        says("Promise 26", "in which each PROVED STREAM by its place has its next BLOCK READ", () -> {
+            AheadPlanner x = read(with(NEED, 3), 10, 11);
+            due("not PROVED", x.forecast(1, 0), 0);
+            x.advise(1000, 1);
+            due("the PROVED one alone", x.forecast(1, 0), 1);
+            AheadPlanner y = with(TABLE, 6);
+            for (int i = 0; i < 6; i++) {
+                y.advise(1000 * i, 1);
+            }
+            due("six", y.forecast(1, 0), 6);
+            due("six by twenty", y.forecast(20, 0), 120);
+            y.stop(5);
+            due("five", y.forecast(1, 0), 5);
         });
         says("Promise 26", "how many READS (what 0; none that FAILED), HITS (1), WASTED (2), LATE (3)", () -> {
             AheadPlanner x = with();
@@ -492,6 +544,8 @@ public final class PaperEdgeTest extends Edges {
             AheadPlanner x = read(with(), 100, 200, 300, 100, 200, 300, 100);
             due("not READ for longest", x.misses(2, 0), 7);
             due("READ again last", x.misses(2, 1), 5);
+            due("the one READ again last is the greater BLOCK", read(with(), 200, 100, 300, 100, 300, 200).misses(2, 1), 4);
+            due("the one READ again last is the lesser BLOCK", read(with(), 100, 200, 300, 200, 300, 100).misses(2, 1), 4);
         });
         says("Promise 29", "NONE: others.", () -> {
             for (int c : new int[] {MIN, -1, 0, 65, MAX}) {
@@ -682,6 +736,17 @@ public final class PaperEdgeTest extends Edges {
                 int w = what;
                 changesNothingBut("habits(" + what + ")", SOMETHING, x -> x.habits(w));
             }
+            // Asked again and by turns: none of it leaves anything behind for the next.
+            AheadPlanner x = read(with(), 30, 10, 20, 20, 21);
+            for (int turn = 0; turn < 3; turn++) {
+                due("unlike", x.habits(0), 4);
+                due("unlike", x.habits(0), 4);
+                due("most often", x.habits(2), 20);
+                due("a row of 10", x.row(10, 0), 2);
+                due("a row of -10", x.row(-10, 1), 30);
+                due("the pace", x.pace(0), 1);
+                due("MISSES at best", x.misses(1, 1), 4);
+            }
         });
     }
 
@@ -719,6 +784,29 @@ public final class PaperEdgeTest extends Edges {
             due("though it is gone", x.count(17), 8);
             x.sets(FIRST_WINDOW, 1);
             due("as at first", x.count(17), 0);
+        });
+        says("Promise 35", "20 .. 29 TERMS", () -> {
+            AheadPlanner x = with(ROOM, 64, NEED, 4, FIRST_WINDOW, 8, MOST, 32, REACH, 200, SHARE, 100, TABLE, 6, SIZE, 1,
+                    POLICY, 2, LAG, 8);
+            int[] told = {64, 4, 8, 32, 200, 100, 6, 1, 2, 8};
+            for (int term = 0; term < 10; term++) {
+                due("count(" + (20 + term) + ")", x.count(20 + term), told[term]);
+            }
+            due("19 is none of them", x.count(19), 0);
+            due("nor is 30", x.count(30), 0);
+        });
+        says("Promise 35", "4 HITS at a BLOCK AHEAD, 5 AHEAD FETCHED, 6 WASTED, 7 SHARED, 8 HELD, 9 BATCHES (HELD ones, too)", () -> {
+            AheadPlanner x = with(SHARE, 0);
+            x.advise(10, 1);
+            x.advise(9, 1);
+            read(x, 12, 12);
+            x.drop(11);
+            x.drop(12);
+            x.advise(500, 1);
+            int[] told = {1, 3, 1, 1, 1, 3};
+            for (int i = 0; i < told.length; i++) {
+                due("count(" + (4 + i) + ")", x.count(4 + i), told[i]);
+            }
         });
         says("Promise 35", "18 BAD BLOCKS (of 0 .. SIZE less 1)", () -> {
             AheadPlanner x = new AheadPlanner();

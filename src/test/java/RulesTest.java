@@ -1,4 +1,6 @@
 import java.io.IOException;
+import java.io.PrintWriter;
+import java.io.StringWriter;
 import java.lang.management.ManagementFactory;
 import java.lang.reflect.Array;
 import java.lang.reflect.Field;
@@ -8,11 +10,15 @@ import java.nio.file.Files;
 import java.nio.file.Path;
 import java.util.ArrayList;
 import java.util.Arrays;
+import java.util.HashMap;
 import java.util.IdentityHashMap;
 import java.util.List;
+import java.util.Map;
+import java.util.Set;
 import java.util.TreeSet;
 import java.util.regex.Matcher;
 import java.util.regex.Pattern;
+import java.util.spi.ToolProvider;
 
 /** The rules of LANGUAGE.md that a program can look at: the face, words that are out, sizes, what a run makes. */
 public final class RulesTest {
@@ -36,6 +42,7 @@ public final class RulesTest {
         lengths(source);
         classes();
         makers(source);
+        compiled();
         whatTheConstructorMakes();
         whatCallsMake();
         System.out.println(wrong == 0 ? "the rules are kept" : wrong + " rules are broken");
@@ -152,6 +159,69 @@ public final class RulesTest {
             }
         }
         must(methods > 100, "the methods are read: " + methods);
+    }
+
+    /** What the compiled class calls: only the library that rule 4 leaves, nothing that throws, eight calls deep. */
+    private static void compiled() {
+        Map<String, Set<String>> calls = new HashMap<>();
+        Set<String> outside = new TreeSet<>();
+        List<String> roots = new ArrayList<>();
+        for (Class<?> c : AheadPlanner.class.getNestMembers()) {
+            String code = disassembled(c.getName());
+            must(!Pattern.compile("\\d+: (athrow|monitorenter|invokedynamic|checkcast)\\b|Exception table:").matcher(code).find(),
+                    "6: " + c + " throws, catches or casts");
+            String method = null;
+            for (String line : code.split("\n")) {
+                Matcher header = Pattern.compile("^  (.*?)([\\w$.]+)\\([^)]*\\);$").matcher(line);
+                Matcher call = Pattern.compile("// (?:Interface)?Method (?:([\\w/$]+)\\.)?\"?(<?\\w+>?)\"?:").matcher(line);
+                if (header.matches()) {
+                    boolean makes = header.group(2).equals(c.getName());
+                    method = c.getName() + "." + (makes ? "<init>" : header.group(2));
+                    must(calls.put(method, new TreeSet<>()) == null, "no two methods of one name: " + method);
+                    if (header.group(1).startsWith("public ")) {
+                        roots.add(method);
+                    }
+                } else if (method != null && call.find()) {
+                    String of = call.group(1) == null ? c.getName() : call.group(1);
+                    String called = of + "." + call.group(2);
+                    (of.startsWith("java/") ? outside : calls.get(method)).add(called);
+                }
+            }
+        }
+        TreeSet<String> library = new TreeSet<>(List.of("java/lang/Math.abs", "java/lang/Math.max", "java/lang/Math.min",
+                "java/lang/Object.<init>", "java/lang/System.arraycopy", "java/util/Arrays.fill"));
+        outside.removeAll(library);
+        must(outside.isEmpty(), "4: the library: " + outside);
+        must(roots.size() == 35, "the methods of the face are read: " + roots.size());
+        for (String root : roots) {
+            List<String> way = deepest(root, calls, new ArrayList<>());
+            must(way.size() <= 8, "11: eight calls deep: " + way);
+        }
+    }
+
+    private static String disassembled(String name) {
+        StringWriter text = new StringWriter();
+        PrintWriter out = new PrintWriter(text);
+        ToolProvider javap = ToolProvider.findFirst("javap").orElseThrow();
+        must(javap.run(out, out, "-c", "-p", "-cp", System.getProperty("java.class.path"), name) == 0, "javap " + name);
+        return text.toString();
+    }
+
+    /** The longest way of calls from a method on; one that comes round to itself is told as recursion. */
+    private static List<String> deepest(String method, Map<String, Set<String>> calls, List<String> open) {
+        List<String> longest = new ArrayList<>();
+        must(!open.contains(method), "8: no recursion: " + open);
+        if (open.contains(method)) {
+            return longest;
+        }
+        open.add(method);
+        for (String called : calls.getOrDefault(method, Set.of())) {
+            List<String> way = deepest(called, calls, open);
+            longest = way.size() > longest.size() ? way : longest;
+        }
+        open.remove(method);
+        longest.add(0, method);
+        return longest;
     }
 
     /** What the constructor makes lives as long as the run: counted with every field and element. */

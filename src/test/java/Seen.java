@@ -82,6 +82,7 @@ final class Seen {
         for (int block = 0; block < 10_000; block++) {
             int b = block;
             asks.add(new Ask("block(" + b + ", 0)", x -> x.block(b, 0)));
+            asks.add(new Ask("block(" + b + ", 1)", x -> x.block(b, 1)));
             asks.add(new Ask("block(" + b + ", 5)", x -> x.block(b, 5)));
         }
         return asks;

@@ -62,6 +62,23 @@ public final class StreamsEdgeTest extends Edges {
     }
 
     private static void step() {
+        says("II.", "By a READ of b, the first of these that is so", () -> {
+            AheadPlanner x = read(with(), 10);
+            x.advise(9, 1);
+            x.read(10);
+            due("STEP of the second ahead of AGAIN of the first", x.whose(0, 0) * 10 + x.whose(0, 1), 11);
+            AheadPlanner y = with();
+            y.advise(20, 2);
+            y.read(21);
+            y.read(22);
+            due("STEP of the first ahead of PAIR of the second", y.whose(0, 0) * 10 + y.whose(0, 1), 1);
+            AheadPlanner z = read(with(), 105);
+            z.advise(110, 1);
+            z.read(110);
+            due("AGAIN of the second ahead of PAIR of the first", z.whose(0, 0) * 10 + z.whose(0, 1), 12);
+            due("PAIR ahead of NEW", read(with(), 10, 26).count(14), 1);
+            due("NEW, as it is none of these", read(with(), 10, 27).count(14), 2);
+        });
         says("II.", "the first PROVED one, without the first", () -> {
             AheadPlanner x = read(with(NEED, 4, REACH, 2), 20, 22);
             x.advise(23, 1);
@@ -77,6 +94,10 @@ public final class StreamsEdgeTest extends Edges {
             z.read(24);
             due("a STEP", z.whose(0, 1), 1);
             due("none PROVED: the first", z.whose(0, 0), 0);
+            AheadPlanner w = read(with(NEED, 4, REACH, 2, FIRST_WINDOW, 1), 20, 22);
+            w.advise(23, 1);
+            w.read(24);
+            due("PROVED by a WINDOW of 1, though it is the second", w.whose(0, 0), 1);
         });
         says("II.", "LAST is b, PROOF 1 more (99 at most)", () -> {
             AheadPlanner x = with();
@@ -186,6 +207,15 @@ public final class StreamsEdgeTest extends Edges {
             z.advise(10, 1);
             read(z, 1000, 3000);
             due("the only one that is not PROVED is the last", z.stream(1, 1), 3000);
+            AheadPlanner w = with(TABLE, 2, FIRST_WINDOW, 1);
+            w.advise(10, 1);
+            read(w, 1000, 3000);
+            due("PROVED by a WINDOW of 1", w.stream(0, 1), 10);
+            due("PROVED", w.count(13), 1);
+            AheadPlanner v = read(with(TABLE, 2, FIRST_WINDOW, 1), 1000);
+            v.advise(10, 1);
+            read(v, 1000, 3000);
+            due("PROVED by a WINDOW of 1, in the last place, and of least USED", v.stream(1, 1), 10);
         });
         says("II.", "if all are, of the one of least USED", () -> {
             AheadPlanner x = with(TABLE, 2);
@@ -283,6 +313,11 @@ public final class StreamsEdgeTest extends Edges {
 
     private static void heldBatches() {
         says("II.", "If WASTED times 100 is above SHARE times AHEAD FETCHED (both so far), it is HELD", () -> {
+            AheadPlanner all = with(FIRST_WINDOW, 1, SHARE, 99);
+            all.advise(10, 1);
+            all.drop(11);
+            all.read(11);
+            due("1 of 1, SHARE 99", all.count(8), 1);
             int[][] heldBy = {{25, 0}, {24, 1}, {26, 0}, {0, 1}, {100, 0}};
             for (int[] h : heldBy) {
                 AheadPlanner x = with(FIRST_WINDOW, 4, SHARE, h[0]);
@@ -454,6 +489,18 @@ public final class StreamsEdgeTest extends Edges {
     }
 
     private static void joined() {
+        says("II.", "JOINED: behind a READ", () -> {
+            AheadPlanner x = with();
+            x.advise(10, 1);
+            x.advise(10, 1);
+            due("not by advise()", x.count(12) * 10 + x.count(19), 20);
+            x.idle(1);
+            x.read(5_000);
+            due("not by a READ of another", x.count(12) * 10 + x.count(19), 30);
+            x.read(10);
+            due("behind AGAIN", x.count(12) * 10 + x.count(19), 21);
+            due("the lesser NUMBER stays", x.stream(0, 0), 0);
+        });
         says("II.", "the one of the greater NUMBER goes (nothing more, if that is the READ's own)", () -> {
             AheadPlanner x = with();
             x.advise(10, 1);
@@ -521,6 +568,17 @@ public final class StreamsEdgeTest extends Edges {
             AheadPlanner x = read(with(NEED, 4), 10, 11, 12);
             due("not PROVED", x.idle(1), 0);
             due("without any", new AheadPlanner().idle(1), 0);
+            AheadPlanner y = with();
+            y.advise(10, 1);
+            y.read(12);
+            y.stop(0);
+            due("stopped", y.idle(1), 0);
+            AheadPlanner z = with(FIRST_WINDOW, 1, SIZE, 1_000);
+            z.bad(11, true);
+            z.advise(10, 1);
+            z.bad(11, false);
+            due("WINDOW 1, none AHEAD", z.idle(20), 1);
+            due("11", z.block(11, 3), 1);
         });
     }
 
