@@ -58,7 +58,8 @@ abstract class Edges {
 
     private static String textOf(String part) {
         String[][] parts = {{"I.", "## Terms", "II. A STREAM"}, {"II.", "II. A STREAM", "IN FULL."},
-            {"IN FULL", "IN FULL.", "The constants:"}, {"Face", "# AheadPlanner", "## Terms"}};
+            {"IN FULL", "IN FULL.", "The constants:"}, {"Face", "# AheadPlanner", "## Terms"},
+            {"Constants", "The constants:", "## "}};
         for (String[] p : parts) {
             if (p[0].equals(part)) {
                 return between(p[1], p[2]);
